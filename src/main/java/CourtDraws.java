@@ -47,6 +47,8 @@ public final class CourtDraws {
     private static final int NOBODY = -2;
     private static final int NONE = -1;
     private static final int NO_SLOT = -2000;
+    /** Ahead of every minute that a call can tell. */
+    private static final int EVER = -2147483648;
 
     /** How a MATCH ended, in the numbers that stands() answers. */
     private static final int GOES_ON = 0;
@@ -630,7 +632,7 @@ public final class CourtDraws {
                 }
                 on = winners[from];
             }
-            return places[2 * from + on];
+            return from < size / 2 ? places[2 * from + on] : NOBODY;
         }
 
         boolean isKnown(int j) {
@@ -1050,10 +1052,10 @@ public final class CourtDraws {
             }
         }
 
-        /** The first MINUTE at which a PLAYER is RESTED; the least int if it always is. */
+        /** The first MINUTE at which a PLAYER is RESTED, or EVER. */
         int readyAt(int player, int rest) {
             if (!isPlayer(player) || latest[player] < 0) {
-                return Integer.MIN_VALUE;
+                return EVER;
             }
             return latest[player] + rest;
         }

@@ -431,6 +431,13 @@ public final class DayTest {
         CHECK.due("SIDE 0 is", x.why(2, 560), 6);
         CHECK.due("SIDE 1 isn't", x.why(2, 579), 6);
         CHECK.due("both are", x.why(2, 580), 0);
+        x.over(1, 0);
+        x.over(0, 0);
+        CHECK.due("REAL END at MINUTE 0", x.why(2, 59), 5);
+        CHECK.due("RESTED from MINUTE 60 on", x.why(2, 60), 0);
+        CHECK.due("ahead of all MINUTES", x.why(2, Integer.MIN_VALUE), 5);
+        x.over(0, 500);
+        x.over(1, 520);
         x.rule(0, 100);
         CHECK.due("a longer REST", x.why(2, 619), 6);
         CHECK.due("a longer REST over", x.why(2, 620), 0);

@@ -204,6 +204,17 @@ public final class DrawsTest {
             Scenes.fill(x, 0, 4, 2, 0, 4);
             dueLaid(x, 0, seed, 0, fours[seed]);
         }
+        lands(x, 0, 2, 1, 2, 1);
+        int[] changesWithZero = {6, 9};
+        String[] changed = {"1 0 3 2", "3 0 1 2"};
+        for (int i = 0; i < changed.length; i++) {
+            x.draw(0, 4, 2);
+            x.enter(0, 3);
+            x.enter(0, 0);
+            x.enter(0, 1);
+            x.enter(0, 2);
+            dueLaid(x, 0, changesWithZero[i], 0, changed[i]);
+        }
         Scenes.fill(x, 0, 4, 2, 5, 3);
         dueLaid(x, 3, 0, 1, "5 -1 7 6");
         Scenes.fill(x, 0, 4, 2, 5, 3);
@@ -269,6 +280,12 @@ public final class DrawsTest {
         CHECK.due("place(0, -1)", x.place(0, -1), -2);
         CHECK.due("place(4, 0)", x.place(4, 0), -2);
         CHECK.due("place(-1, 0)", x.place(-1, 0), -2);
+        Scenes.fill(x, 1, 16, 2, 0, 16);
+        x.seeds(1, 2);
+        x.lay(1, 0);
+        CHECK.due("PLAYER 0", x.place(1, 0), 0);
+        CHECK.due("the last PLACE of 16", x.place(1, 15), 1);
+        CHECK.due("place(1, 16)", x.place(1, 16), -2);
     }
 
     private static void dueOf(CourtDraws x, int d, String want) {

@@ -25,7 +25,7 @@ public final class LanguageTest {
         + "worth(int,int)";
     private static final String[] WORDS = {"throw", "throws", "try", "catch", "finally", "synchronized", "assert",
         "import", "package", "protected", "native", "volatile", "System", "Random", "Thread", "Object", "hashCode",
-        "yield", "var", "public static void main", "double", "float"};
+        "yield", "var", "public static void main", "double", "float", "MIN_VALUE", "MAX_VALUE"};
 
     private static int objects;
     private static int elements;
@@ -100,6 +100,7 @@ public final class LanguageTest {
             CHECK.due(type + " isn't public", type.getModifiers() & (Modifier.PUBLIC | Modifier.PROTECTED), 0);
             CHECK.due(type + " has some twenty fields at most", type.getDeclaredFields().length <= 20, true);
             for (Method method : type.getDeclaredMethods()) {
+                CHECK.due(method + " is none of the face", (" " + FACE).contains(" " + method.getName() + "("), false);
                 CHECK.due(method + " has seven parameters at most", method.getParameterCount() <= 7, true);
             }
         }

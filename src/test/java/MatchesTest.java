@@ -79,6 +79,10 @@ public final class MatchesTest {
         x.walk(1, 1);
         CHECK.due("the second feeder's winner is SIDE 1", x.side(2, 1), 6);
         CHECK.due("the first feeder's isn't known", x.side(2, 0), -1);
+        Scenes.fill(x, 1, 4, 2, 0, 4);
+        x.seeds(1, 1);
+        x.lay(1, 0);
+        CHECK.due("PLAYER 0", x.side(16, 0), 0);
         x = three();
         CHECK.due("a BYE", x.side(0, 1), -1);
         CHECK.due("the winner of a BYE", x.side(2, 0), 5);
