@@ -29,25 +29,13 @@ public final class DayTest {
         CHECK.finish();
     }
 
-    /** DRAW 0, LENGTH 2: PLACES 5 8 7 6. DRAW 1, LENGTH 3: PLACES 8 11 10 9. PLAYER 8 plays in both. */
-    private static CourtDraws two() {
-        CourtDraws x = new CourtDraws();
-        Scenes.fill(x, 0, 4, 2, 5, 4);
-        x.seeds(0, 4);
-        x.lay(0, 0);
-        Scenes.fill(x, 1, 4, 3, 8, 4);
-        x.seeds(1, 4);
-        x.lay(1, 0);
-        return x;
-    }
-
     private static void dueTime(CourtDraws x, int c, int k, int begin, int end) {
         CHECK.due("time(" + c + ", " + k + ", 0)", x.time(c, k, 0), begin);
         CHECK.due("time(" + c + ", " + k + ", 1)", x.time(c, k, 1), end);
     }
 
     private static void promise22Court() {
-        CourtDraws x = two();
+        CourtDraws x = Scenes.two();
         x.gap(5, 100);
         CHECK.due("court", x.court(5, true, false, 99, 100000), 1);
         dueTime(x, 5, 0, 100000, 100100);
@@ -67,7 +55,7 @@ public final class DayTest {
     }
 
     private static void promise23Rule() {
-        CourtDraws x = two();
+        CourtDraws x = Scenes.two();
         x.slot(0, 0);
         x.slot(0, 16);
         dueTime(x, 0, 1, 750, 900);
@@ -197,7 +185,7 @@ public final class DayTest {
     }
 
     private static void promise29TimesInOrder() {
-        CourtDraws x = two();
+        CourtDraws x = Scenes.two();
         x.court(2, false, false, 0, 640);
         x.slot(0, 0);
         x.slot(1, 16);
@@ -224,7 +212,7 @@ public final class DayTest {
     }
 
     private static void promise29FedMatches() {
-        CourtDraws x = two();
+        CourtDraws x = Scenes.two();
         x.slot(0, 18);
         x.slot(1, 16);
         x.slot(2, 17);
@@ -250,7 +238,7 @@ public final class DayTest {
     }
 
     private static void promise29CantBe() {
-        CourtDraws x = two();
+        CourtDraws x = Scenes.two();
         x.slot(0, 0);
         x.slot(1, 0);
         dueTime(x, 0, 0, 600, 690);
@@ -293,7 +281,7 @@ public final class DayTest {
     }
 
     private static void promise29Dark() {
-        CourtDraws x = two();
+        CourtDraws x = Scenes.two();
         x.court(0, false, false, 0, 1210);
         x.court(1, false, true, 0, 1211);
         x.court(2, true, false, 0, 1212);
@@ -321,7 +309,7 @@ public final class DayTest {
     }
 
     private static void promise29RealEnds() {
-        CourtDraws x = two();
+        CourtDraws x = Scenes.two();
         x.slot(0, 16);
         x.slot(1, 2);
         x.slot(1, 17);
@@ -350,7 +338,7 @@ public final class DayTest {
     }
 
     private static void promise29Refusals() {
-        CourtDraws x = two();
+        CourtDraws x = Scenes.two();
         x.slot(4, 0);
         for (int c : NO_COURTS) {
             CHECK.due("time(" + c + ", 0, 0)", x.time(c, 0, 0), -2);
@@ -364,7 +352,7 @@ public final class DayTest {
     }
 
     private static void promise30Over() {
-        CourtDraws x = two();
+        CourtDraws x = Scenes.two();
         CHECK.due("not ENDED", x.over(0, 700), CourtDraws.ENDED);
         CHECK.due("NUMBER ahead of ENDED", x.over(0, -1), CourtDraws.NUMBER);
         CHECK.due("not known", x.over(2, 700), CourtDraws.ENDED);
@@ -390,7 +378,7 @@ public final class DayTest {
     }
 
     private static void promise31End() {
-        CourtDraws x = two();
+        CourtDraws x = Scenes.two();
         CHECK.due("not ENDED", x.end(0), -1);
         x.walk(0, 0);
         CHECK.due("none told", x.end(0), -1);
@@ -410,7 +398,7 @@ public final class DayTest {
     }
 
     private static void promise32Why() {
-        CourtDraws x = two();
+        CourtDraws x = Scenes.two();
         CHECK.due("it may", x.why(0, 0), 0);
         CHECK.due("a SIDE isn't known", x.why(2, 0), 2);
         for (int match : NO_CODES) {
@@ -451,7 +439,7 @@ public final class DayTest {
     }
 
     private static void promise32WhyOtherDraws() {
-        CourtDraws x = two();
+        CourtDraws x = Scenes.two();
         x.walk(0, 0);
         x.over(0, 700);
         CHECK.due("PLAYER 8 lost in DRAW 0", x.why(16, 759), 5);
@@ -480,7 +468,7 @@ public final class DayTest {
     }
 
     private static void promise33Worth() {
-        CourtDraws x = two();
+        CourtDraws x = Scenes.two();
         for (int match : NO_CODES) {
             CHECK.due("worth(" + match + ", 5)", x.worth(match, 5), CourtDraws.NUMBER);
         }
@@ -504,7 +492,7 @@ public final class DayTest {
     }
 
     private static void promise34Fitted() {
-        CourtDraws x = two();
+        CourtDraws x = Scenes.two();
         for (int c : NO_COURTS) {
             CHECK.due("fitted(" + c + ", 0)", x.fitted(c, 0), -1);
         }
@@ -527,7 +515,7 @@ public final class DayTest {
     }
 
     private static void promise34NoPlayerTwice() {
-        CourtDraws x = two();
+        CourtDraws x = Scenes.two();
         CHECK.due("COURT 0", x.fitted(0, 0), 0);
         CHECK.due("COURT 1", x.fitted(1, 0), 1);
         CHECK.due("16 is left out: 8 plays 0", x.fitted(2, 0), 17);
@@ -549,7 +537,7 @@ public final class DayTest {
     }
 
     private static void promise34LeavesOut() {
-        CourtDraws x = two();
+        CourtDraws x = Scenes.two();
         x.court(0, false, true, 50, 600);
         x.court(3, true, false, 10, 600);
         x.rain(true);

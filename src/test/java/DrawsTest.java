@@ -188,23 +188,17 @@ public final class DrawsTest {
         CHECK.due("places by " + seed, Scenes.places(x, 0), want);
     }
 
-    private static void lands(CourtDraws x, int first, int... lands) {
-        for (int i = 0; i < lands.length; i++) {
-            x.land(first + i, lands[i]);
-        }
-    }
-
     /** The places were worked out apart from the program, by the document's words. */
     private static void promise6LayPlaces() {
         CourtDraws x = new CourtDraws();
-        lands(x, 0, 1, 1, 2, 2);
+        Scenes.lands(x, 0, 1, 1, 2, 2);
         String[] fours = {"2 1 3 0", "3 1 0 2", "3 0 2 1", "1 2 0 3", "0 3 1 2", "0 3 2 1", "2 0 1 3", "1 3 0 2",
             "3 1 2 0", "0 2 1 3", "1 3 0 2", "2 1 3 0"};
         for (int seed = 0; seed < fours.length; seed++) {
             Scenes.fill(x, 0, 4, 2, 0, 4);
             dueLaid(x, 0, seed, 0, fours[seed]);
         }
-        lands(x, 0, 2, 1, 2, 1);
+        Scenes.lands(x, 0, 2, 1, 2, 1);
         int[] changesWithZero = {6, 9};
         String[] changed = {"1 0 3 2", "3 0 1 2"};
         for (int i = 0; i < changed.length; i++) {
@@ -224,7 +218,7 @@ public final class DrawsTest {
         Scenes.fill(x, 0, 4, 2, 5, 4);
         dueLaid(x, 4, 3, 0, "5 7 8 6");
 
-        lands(x, 10, 1, 2, 1, 2, 1, 2, 3, 3);
+        Scenes.lands(x, 10, 1, 2, 1, 2, 1, 2, 3, 3);
         int[] seeds = {0, -1, Integer.MAX_VALUE, Integer.MIN_VALUE};
         String[] eights = {"10 17 15 12 16 13 14 11", "10 15 12 13 16 14 17 11", "10 17 15 16 14 13 12 11",
             "10 17 16 14 13 15 12 11"};
@@ -232,7 +226,7 @@ public final class DrawsTest {
             Scenes.fill(x, 0, 8, 2, 10, 8);
             dueLaid(x, 2, seeds[i], 0, eights[i]);
         }
-        lands(x, 10, 1, 1, 1, 2, 2);
+        Scenes.lands(x, 10, 1, 1, 1, 2, 2);
         Scenes.fill(x, 0, 8, 2, 10, 5);
         dueLaid(x, 1, 3, 3, "10 -1 12 -1 13 -1 11 14");
         Scenes.fill(x, 0, 8, 2, 10, 5);
@@ -256,10 +250,10 @@ public final class DrawsTest {
 
     private static void promise6LandsAreThoseOfTheLaying() {
         CourtDraws x = new CourtDraws();
-        lands(x, 0, 1, 1, 2, 2);
+        Scenes.lands(x, 0, 1, 1, 2, 2);
         Scenes.fill(x, 0, 4, 2, 0, 4);
         x.lay(0, 4);
-        lands(x, 0, 1, 2, 2, 1);
+        Scenes.lands(x, 0, 1, 2, 2, 1);
         CHECK.due("a LAID DRAW stays when LANDS change", Scenes.places(x, 0), "0 3 1 2");
         Scenes.fill(x, 1, 4, 2, 0, 4);
         x.lay(1, 4);

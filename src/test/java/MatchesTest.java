@@ -25,39 +25,8 @@ public final class MatchesTest {
         CHECK.finish();
     }
 
-    /** DRAW 0 of four SEEDS: PLACES 5 8 7 6. */
-    private static CourtDraws four(int length) {
-        CourtDraws x = new CourtDraws();
-        Scenes.fill(x, 0, 4, length, 5, 4);
-        x.seeds(0, 4);
-        x.lay(0, 0);
-        return x;
-    }
-
-    /** DRAW 0 of three SEEDS: PLACES 5 BYE 7 6. */
-    private static CourtDraws three() {
-        CourtDraws x = new CourtDraws();
-        Scenes.fill(x, 0, 4, 2, 5, 3);
-        x.seeds(0, 3);
-        x.lay(0, 0);
-        return x;
-    }
-
-    /** DRAW 2 of eight: PLACES 10 17 15 12 16 13 14 11. */
-    private static CourtDraws eight() {
-        CourtDraws x = new CourtDraws();
-        Scenes.fill(x, 2, 8, 2, 10, 8);
-        x.seeds(2, 2);
-        x.lay(2, 0);
-        return x;
-    }
-
     private static void dueScore(CourtDraws x, int match, String want) {
-        StringBuilder told = new StringBuilder();
-        for (int what = 0; what < 10; what++) {
-            told.append(what == 0 ? "" : " ").append(x.score(match, what));
-        }
-        CHECK.due("score(" + match + ", 0 to 9)", told.toString(), want);
+        CHECK.due("score(" + match + ", 0 to 9)", Scenes.score(x, match), want);
     }
 
     private static void promise10Side() {
@@ -65,7 +34,7 @@ public final class MatchesTest {
         Scenes.fill(x, 0, 4, 2, 5, 4);
         x.seeds(0, 4);
         CHECK.due("side ahead of laying", x.side(0, 0), -1);
-        x = four(2);
+        x = Scenes.four(2);
         CHECK.due("side(0, 0)", x.side(0, 0), 5);
         CHECK.due("side(0, 1)", x.side(0, 1), 8);
         CHECK.due("side(1, 0)", x.side(1, 0), 7);
@@ -83,10 +52,10 @@ public final class MatchesTest {
         x.seeds(1, 1);
         x.lay(1, 0);
         CHECK.due("PLAYER 0", x.side(16, 0), 0);
-        x = three();
+        x = Scenes.three();
         CHECK.due("a BYE", x.side(0, 1), -1);
         CHECK.due("the winner of a BYE", x.side(2, 0), 5);
-        x = eight();
+        x = Scenes.eight();
         for (int match = 32; match < 36; match++) {
             x.walk(match, match % 2);
         }
@@ -102,7 +71,7 @@ public final class MatchesTest {
     }
 
     private static void promise11Point() {
-        CourtDraws x = four(2);
+        CourtDraws x = Scenes.four(2);
         CHECK.due("a POINT", x.point(0, 0), 0);
         CHECK.due("3 : 0", Scenes.points(x, 0, "00"), 0);
         CHECK.due("a game", x.point(0, 0), 1);
@@ -126,10 +95,10 @@ public final class MatchesTest {
         for (int match : NO_MATCHES) {
             CHECK.due("point(" + match + ", 0)", x.point(match, 0), CourtDraws.NUMBER);
         }
-        CourtDraws y = four(3);
+        CourtDraws y = Scenes.four(3);
         CHECK.due("two SETS of three", Scenes.games(y, 0, "000000000000"), 2);
         CHECK.due("three of three", Scenes.games(y, 0, "000000"), 3);
-        y = three();
+        y = Scenes.three();
         CHECK.due("of a BYE", y.point(0, 0), CourtDraws.ENDED);
         y.walk(1, 0);
         CHECK.due("ENDED by a WALK-OVER", y.point(1, 0), CourtDraws.ENDED);
@@ -137,7 +106,7 @@ public final class MatchesTest {
     }
 
     private static void promise11PointsFull() {
-        CourtDraws x = four(2);
+        CourtDraws x = Scenes.four(2);
         CHECK.due("300 POINTS of one game", Scenes.points(x, 0, "01".repeat(150)), 0);
         CHECK.due("full", x.point(0, 0), CourtDraws.FULL);
         dueScore(x, 0, "150 150 0 0 0 0 0 0 300 2");
@@ -147,7 +116,7 @@ public final class MatchesTest {
         CHECK.due("full again", x.point(0, 1), CourtDraws.FULL);
         CHECK.due("retire when full", x.retire(0, 1), 1);
         CHECK.due("ENDED is named ahead of FULL", x.point(0, 1), CourtDraws.ENDED);
-        x = four(2);
+        x = Scenes.four(2);
         Scenes.points(x, 0, "01".repeat(127) + "00");
         CHECK.due("the 300th ends the MATCH", Scenes.games(x, 0, "00000000000"), 3);
         dueScore(x, 0, "0 0 0 0 2 0 0 6 300 2");
@@ -155,7 +124,7 @@ public final class MatchesTest {
     }
 
     private static void promise12Back() {
-        CourtDraws x = four(2);
+        CourtDraws x = Scenes.four(2);
         for (int match : NO_MATCHES) {
             CHECK.due("back(" + match + ")", x.back(match), CourtDraws.NUMBER);
         }
@@ -174,18 +143,18 @@ public final class MatchesTest {
         }
         CHECK.due("none any more", x.back(0), CourtDraws.UNKNOWN);
         CHECK.due("not begun", x.stands(0), 1);
-        x = three();
+        x = Scenes.three();
         CHECK.due("of a BYE", x.back(0), CourtDraws.ENDED);
         x.point(1, 0);
         x.retire(1, 0);
         CHECK.due("of one RETIRED", x.back(1), CourtDraws.ENDED);
-        x = three();
+        x = Scenes.three();
         x.walk(1, 0);
         CHECK.due("of a WALK-OVER", x.back(1), CourtDraws.ENDED);
     }
 
     private static void promise12BackOfEnded() {
-        CourtDraws x = four(2);
+        CourtDraws x = Scenes.four(2);
         Scenes.games(x, 0, "000000000000");
         x.over(0, 800);
         x.walk(1, 0);
@@ -212,7 +181,7 @@ public final class MatchesTest {
     }
 
     private static void promise13Walk() {
-        CourtDraws x = four(2);
+        CourtDraws x = Scenes.four(2);
         for (int match : NO_MATCHES) {
             CHECK.due("walk(" + match + ", 0)", x.walk(match, 0), CourtDraws.NUMBER);
         }
@@ -231,11 +200,11 @@ public final class MatchesTest {
         CHECK.due("SIDE 0, too", x.walk(1, 0), 1);
         CHECK.due("the last one", x.walk(2, 0), 1);
         CHECK.due("who won", x.side(2, x.winner(2)), 8);
-        CHECK.due("of a BYE", three().walk(0, 0), CourtDraws.ENDED);
+        CHECK.due("of a BYE", Scenes.three().walk(0, 0), CourtDraws.ENDED);
     }
 
     private static void promise14Retire() {
-        CourtDraws x = four(3);
+        CourtDraws x = Scenes.four(3);
         for (int match : NO_MATCHES) {
             CHECK.due("retire(" + match + ", 0)", x.retire(match, 0), CourtDraws.NUMBER);
         }
@@ -255,17 +224,17 @@ public final class MatchesTest {
         x.point(1, 0);
         CHECK.due("SIDE 1 RETIRES", x.retire(1, 1), 1);
         CHECK.due("SIDE 0 wins", x.side(2, 1), 7);
-        CHECK.due("of a BYE", three().retire(0, 0), CourtDraws.ENDED);
+        CHECK.due("of a BYE", Scenes.three().retire(0, 0), CourtDraws.ENDED);
     }
 
     private static void promise15Undo() {
-        CourtDraws x = four(2);
+        CourtDraws x = Scenes.four(2);
         for (int match : NO_MATCHES) {
             CHECK.due("undo(" + match + ")", x.undo(match), CourtDraws.NUMBER);
         }
         CHECK.due("not ENDED", x.undo(0), CourtDraws.ENDED);
         CHECK.due("not known", x.undo(2), CourtDraws.ENDED);
-        CHECK.due("of a BYE", three().undo(0), CourtDraws.ENDED);
+        CHECK.due("of a BYE", Scenes.three().undo(0), CourtDraws.ENDED);
         Scenes.games(x, 0, "000000000000");
         CHECK.due("ENDED by POINTS", x.undo(0), CourtDraws.ENDED);
         x.walk(1, 1);
@@ -293,7 +262,7 @@ public final class MatchesTest {
     }
 
     private static void promise16Games() {
-        CourtDraws x = four(3);
+        CourtDraws x = Scenes.four(3);
         dueScore(x, 0, "0 0 0 0 0 0 0 0 0 3");
         Scenes.points(x, 0, "001");
         dueScore(x, 0, "2 1 0 0 0 0 0 0 3 3");
@@ -314,7 +283,7 @@ public final class MatchesTest {
     }
 
     private static void promise16Ties() {
-        CourtDraws x = four(2);
+        CourtDraws x = Scenes.four(2);
         Scenes.games(x, 0, "010101010101");
         dueScore(x, 0, "0 0 6 6 0 0 0 6 48 2");
         CHECK.due("4 : 0 is no game of a TIE", Scenes.points(x, 0, "0000"), 0);
@@ -327,7 +296,7 @@ public final class MatchesTest {
         CHECK.due("a TIE counts as a game", x.games(0, 0, 0), 7);
         CHECK.due("games of the other", x.games(0, 0, 1), 6);
 
-        x = four(2);
+        x = Scenes.four(2);
         Scenes.games(x, 0, "010101010101");
         Scenes.points(x, 0, "01010101010");
         dueScore(x, 0, "6 5 6 6 0 0 0 7 59 2");
@@ -344,7 +313,7 @@ public final class MatchesTest {
     }
 
     private static void promise16TieServes() {
-        CourtDraws x = four(2);
+        CourtDraws x = Scenes.four(2);
         Scenes.games(x, 0, "010101010101");
         String even = "";
         for (int i = 0; i < 11; i++) {
@@ -352,12 +321,12 @@ public final class MatchesTest {
             x.point(0, i % 2);
         }
         CHECK.due("who SERVES in a TIE of SIDE 0's turn", even, "01100110011");
-        x = four(2);
+        x = Scenes.four(2);
         Scenes.games(x, 0, "1111110");
         CHECK.due("the SET was won with the sixth", x.score(0, 5), 1);
         Scenes.games(x, 0, "10101010101");
         dueScore(x, 0, "0 0 6 6 0 1 0 9 72 2");
-        x = four(2);
+        x = Scenes.four(2);
         Scenes.games(x, 0, "0111111");
         Scenes.games(x, 0, "010101010101");
         dueScore(x, 0, "0 0 6 6 0 1 1 10 76 2");
@@ -372,11 +341,11 @@ public final class MatchesTest {
     }
 
     private static void promise16EndedAndRefused() {
-        CourtDraws x = four(2);
+        CourtDraws x = Scenes.four(2);
         Scenes.games(x, 0, "0000001000000");
         dueScore(x, 0, "0 0 0 0 2 0 1 7 52 2");
         x.over(0, 700);
-        x = four(2);
+        x = Scenes.four(2);
         Scenes.games(x, 0, "000000000000");
         dueScore(x, 0, "0 0 0 0 2 0 0 6 48 2");
         CHECK.due("score(0, 10)", x.score(0, 10), -1);
@@ -385,13 +354,13 @@ public final class MatchesTest {
             CHECK.due("score(" + match + ", 9)", x.score(match, 9), -1);
         }
         dueScore(x, 2, "0 0 0 0 0 0 0 0 0 2");
-        dueScore(three(), 0, "0 0 0 0 0 0 0 0 0 2");
+        dueScore(Scenes.three(), 0, "0 0 0 0 0 0 0 0 0 2");
         x.draw(1, 4, 2);
         CHECK.due("of a DRAW that isn't LAID", x.score(16, 9), -1);
     }
 
     private static void promise17Games() {
-        CourtDraws x = four(3);
+        CourtDraws x = Scenes.four(3);
         for (int match : NO_MATCHES) {
             CHECK.due("games(" + match + ", 0, 0)", x.games(match, 0, 0), -1);
         }
@@ -424,7 +393,7 @@ public final class MatchesTest {
         Scenes.games(x, 1, "000000");
         x.retire(1, 0);
         CHECK.due("behind RETIRING the SET behind is told", x.games(1, 1, 0), 0);
-        x = four(2);
+        x = Scenes.four(2);
         Scenes.games(x, 0, "000000000000");
         CHECK.due("of two SETS no third", x.games(0, 2, 0), -1);
         x.walk(1, 0);
@@ -433,7 +402,7 @@ public final class MatchesTest {
     }
 
     private static void promise18Stands() {
-        CourtDraws x = three();
+        CourtDraws x = Scenes.three();
         CHECK.due("of a BYE", x.stands(0), 6);
         CHECK.due("not begun", x.stands(1), 1);
         CHECK.due("not known: one SIDE is", x.stands(2), 0);
@@ -444,7 +413,7 @@ public final class MatchesTest {
         CHECK.due("known now", x.stands(2), 1);
         x.walk(2, 0);
         CHECK.due("WALK-OVER", x.stands(2), 4);
-        x = four(2);
+        x = Scenes.four(2);
         CHECK.due("neither SIDE known", x.stands(2), 0);
         Scenes.games(x, 0, "000000000000");
         CHECK.due("by POINTS", x.stands(0), 3);
@@ -456,7 +425,7 @@ public final class MatchesTest {
     }
 
     private static void promise19Winner() {
-        CourtDraws x = three();
+        CourtDraws x = Scenes.three();
         CHECK.due("of a BYE", x.winner(0), 0);
         CHECK.due("not ENDED", x.winner(1), -1);
         Scenes.games(x, 1, "11111111111");
@@ -478,7 +447,7 @@ public final class MatchesTest {
     }
 
     private static void promise20Met() {
-        CourtDraws x = eight();
+        CourtDraws x = Scenes.eight();
         CHECK.due("nobody yet", x.met(2, 10, 0), -1);
         x.point(32, 0);
         CHECK.due("a MATCH that goes on", x.met(2, 10, 0), -1);
@@ -503,7 +472,7 @@ public final class MatchesTest {
         CHECK.due("no DRAW -1", x.met(-1, 10, 0), -1);
         x.back(36);
         CHECK.due("not ENDED any more", x.met(2, 10, 1), -1);
-        CourtDraws y = three();
+        CourtDraws y = Scenes.three();
         CHECK.due("a BYE is nobody", y.met(0, 5, 0), -1);
         CHECK.due("a BYE met nobody", y.met(0, -1, 0), -1);
         y.point(1, 0);
@@ -514,7 +483,7 @@ public final class MatchesTest {
     }
 
     private static void promise21Meeting() {
-        CourtDraws x = eight();
+        CourtDraws x = Scenes.eight();
         CHECK.due("round 0", x.meeting(2, 10, 17), 0);
         CHECK.due("round 0, turned", x.meeting(2, 17, 10), 0);
         CHECK.due("round 1", x.meeting(2, 17, 15), 1);
@@ -547,7 +516,7 @@ public final class MatchesTest {
     }
 
     private static void promise21MeetingBehindByes() {
-        CourtDraws x = three();
+        CourtDraws x = Scenes.three();
         CHECK.due("behind a BYE", x.meeting(0, 5, 6), 1);
         CHECK.due("a BYE meets nobody", x.meeting(0, 5, -1), -1);
         x.lucky(0, 5, 20);

@@ -11,6 +11,41 @@ final class Scenes {
         }
     }
 
+    /** A DRAW with PLAYERS from first on, so many of them SEEDS, LAID by 0. */
+    private static CourtDraws lay(CourtDraws x, int d, int size, int length, int first, int many, int seeds) {
+        fill(x, d, size, length, first, many);
+        x.seeds(d, seeds);
+        x.lay(d, 0);
+        return x;
+    }
+
+    /** DRAW 0 of four SEEDS: PLACES 5 8 7 6. */
+    static CourtDraws four(int length) {
+        return lay(new CourtDraws(), 0, 4, length, 5, 4, 4);
+    }
+
+    /** DRAW 0 of three SEEDS: PLACES 5 BYE 7 6. */
+    static CourtDraws three() {
+        return lay(new CourtDraws(), 0, 4, 2, 5, 3, 3);
+    }
+
+    /** DRAW 2 of eight: PLACES 10 17 15 12 16 13 14 11. */
+    static CourtDraws eight() {
+        return lay(new CourtDraws(), 2, 8, 2, 10, 8, 2);
+    }
+
+    /** DRAW 0, LENGTH 2: PLACES 5 8 7 6. DRAW 1, LENGTH 3: PLACES 8 11 10 9. PLAYER 8 plays in both. */
+    static CourtDraws two() {
+        return lay(four(2), 1, 4, 3, 8, 4, 4);
+    }
+
+    /** LANDS of PLAYERS from first on. */
+    static void lands(CourtDraws x, int first, int... lands) {
+        for (int i = 0; i < lands.length; i++) {
+            x.land(first + i, lands[i]);
+        }
+    }
+
     static String places(CourtDraws x, int d) {
         StringBuilder told = new StringBuilder();
         for (int p = 0; p < x.of(d, 0); p++) {
@@ -35,6 +70,15 @@ final class Scenes {
             last = points(x, match, sides.substring(i, i + 1).repeat(4));
         }
         return last;
+    }
+
+    /** score(match, 0 to 9). */
+    static String score(CourtDraws x, int match) {
+        StringBuilder told = new StringBuilder();
+        for (int what = 0; what < 10; what++) {
+            told.append(what == 0 ? "" : " ").append(x.score(match, what));
+        }
+        return told.toString();
     }
 
     /** All that can be asked of an object, in one text: two objects of one state tell the same. */
@@ -74,9 +118,7 @@ final class Scenes {
         told.append("match ").append(match).append(' ').append(x.stands(match)).append(' ');
         told.append(x.winner(match)).append(' ').append(x.end(match)).append(' ').append(x.why(match, 700));
         told.append(' ').append(x.side(match, 0)).append(' ').append(x.side(match, 1));
-        for (int what = 0; what < 10; what++) {
-            told.append(' ').append(x.score(match, what));
-        }
+        told.append(' ').append(score(x, match));
         for (int k = 0; k < 6; k++) {
             told.append(' ').append(x.games(match, k, 0)).append(':').append(x.games(match, k, 1));
         }
