@@ -531,6 +531,16 @@ public final class DrawEdgesTest {
             x.undo(size - 2);
             CHECK.due("one round of " + size, x.of(0, 6), 1);
         }
+        CourtDraws y = new CourtDraws();
+        Scenes.fill(y, 0, 8, 2, 0, 8);
+        y.lay(0, 0);
+        int[] played = {0, 1, 2, 4};
+        for (int match : played) {
+            y.walk(match, 0);
+        }
+        CHECK.due("one is left of round 0, though round 1 began", y.of(0, 6), 3);
+        y.walk(3, 0);
+        CHECK.due("none is", y.of(0, 6), 2);
     }
 
     private static void dueOf(CourtDraws x, int d, int[] want) {

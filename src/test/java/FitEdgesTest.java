@@ -118,6 +118,14 @@ public final class FitEdgesTest {
         x.over(0, 0);
         x.over(1, 1000);
         CHECK.due("SIDE 1 alone", x.why(2, 700), 6);
+        CourtDraws y = Scenes.two();
+        y.walk(0, 0);
+        y.over(0, 1000);
+        CHECK.due("8 isn't RESTED, on SIDE 0", y.why(16, 700), 5);
+        y.point(16, 1);
+        CHECK.due("POINTS, ahead of SIDE 0's REST", y.why(16, 700), 4);
+        y.retire(16, 1);
+        CHECK.due("ENDED, ahead of both", y.why(16, 700), 3);
     }
 
     /** "no less than the REAL END ..., and REST more"; "REST is 60 MINUTES at first" */

@@ -34,12 +34,13 @@ final class Probe {
         told.append('\n').append(what).append(": ");
     }
 
-    /** TWICE comes ahead of what could hide it, in enter() and in lucky(). */
+    /** TWICE comes ahead of what could hide it; each PLAYER is asked for once, lest asking change what is told. */
     private void tellComers() {
         for (int d = 0; d < 4; d++) {
             line("comers of " + d);
+            boolean laid = x.of(d, 4) == 1;
             for (int player = 0; player < 40; player++) {
-                add("", x.enter(d, player)).add("", x.lucky(d, 39, player));
+                add("", laid ? x.lucky(d, 39, player) : x.enter(d, player));
             }
             add("lay ", x.lay(d, 11));
             for (int p = 0; p < 16; p++) {
