@@ -9,7 +9,9 @@ import java.nio.file.Path;
 import java.util.Arrays;
 import java.util.Collections;
 import java.util.IdentityHashMap;
+import java.util.Map;
 import java.util.Set;
+import java.util.TreeMap;
 import java.util.TreeSet;
 import java.util.regex.Matcher;
 import java.util.regex.Pattern;
@@ -99,6 +101,9 @@ public final class LanguageTest {
             CHECK.due(type + " is static", Modifier.isStatic(type.getModifiers()), true);
             CHECK.due(type + " isn't public", type.getModifiers() & (Modifier.PUBLIC | Modifier.PROTECTED), 0);
             CHECK.due(type + " has some twenty fields at most", type.getDeclaredFields().length <= 20, true);
+            for (Field field : type.getDeclaredFields()) {
+                CHECK.due(field + " is no static state", Modifier.isStatic(field.getModifiers()), false);
+            }
             for (Method method : type.getDeclaredMethods()) {
                 CHECK.due(method + " is none of the face", (" " + FACE).contains(" " + method.getName() + "("), false);
                 CHECK.due(method + " has seven parameters at most", method.getParameterCount() <= 7, true);
@@ -121,6 +126,44 @@ public final class LanguageTest {
             }
         }
         methodsStayShort(code.split("\n"));
+        nothingIsMadeByCalls(code.split("\n"));
+        callsStayShallow(code);
+    }
+
+    /** What a call makes stays in the room: so rows are made with the object, by its fields and constructors. */
+    private static void nothingIsMadeByCalls(String[] lines) {
+        for (String line : lines) {
+            if (line.matches(".*\\bnew\\b.*")) {
+                boolean field = line.matches(" +(private )?final \\S+ \\w+ = new [^;]*;");
+                boolean part = line.matches(" +\\w+(\\[\\w\\])? = new \\w+\\(\\);");
+                CHECK.due("made with the object: " + line.trim(), field || part, true);
+            }
+        }
+    }
+
+    /** Rules 8 and 11: no method calls itself, not even through others, and calls go at most eight deep. */
+    private static void callsStayShallow(String code) {
+        Map<String, String> bodies = new TreeMap<>();
+        String method = "(?ms)^( {4,8})(?:[a-zA-Z\\[\\]]+ )+(\\w+)\\([^)]*\\) \\{(.*?)^\\1\\}";
+        Matcher found = Pattern.compile(method).matcher(code);
+        while (found.find()) {
+            CHECK.due(found.group(2) + " is the name of one method", bodies.containsKey(found.group(2)), false);
+            bodies.put(found.group(2), found.group(3));
+        }
+        CHECK.due("methods were found", bodies.size() > 80, true);
+        for (String name : bodies.keySet()) {
+            CHECK.due(name + " goes at most eight deep", depth(name, bodies, 0) <= 8, true);
+        }
+    }
+
+    private static int depth(String name, Map<String, String> bodies, int above) {
+        int deepest = 0;
+        for (String other : bodies.keySet()) {
+            if (above < 20 && Pattern.compile("\\b" + other + "\\(").matcher(bodies.get(name)).find()) {
+                deepest = Math.max(deepest, depth(other, bodies, above + 1));
+            }
+        }
+        return deepest + 1;
     }
 
     private static void methodsStayShort(String[] lines) {
